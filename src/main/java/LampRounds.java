@@ -250,28 +250,28 @@ public final class LampRounds {
     // ---- RINGS (promises 29 to 32)
 
     public int ring() {
-        return hasHouse() ? ringSearch.shortestSize(house) : NO_SUCH;
+        return hasHouse() ? ringSearch.shortestSize() : NO_SUCH;
     }
 
     public int ringed(int i) {
         if (i < 0 || !hasHouse()) {
             return NO_SUCH;
         }
-        return i < ringSearch.shortestSize(house) ? ringSearch.shortest[i] : NONE;
+        return i < ringSearch.shortestSize() ? ringSearch.shortest[i] : NONE;
     }
 
     public int rings(int n) {
         if (n < 1 || n > MOST_RING || !hasHouse()) {
             return NO_SUCH;
         }
-        return ringSearch.howMany(house, n);
+        return ringSearch.howMany(n);
     }
 
     public int isRing() {
         if (!hasHouse()) {
             return NO_SUCH;
         }
-        return ringSearch.roundCloses(house) ? 1 : 0;
+        return ringSearch.roundCloses() ? 1 : 0;
     }
 
     // ---- which to save, which to give up (promises 33 to 38)
@@ -697,15 +697,16 @@ public final class LampRounds {
     }
 
     private void forgetFindings() {
-        ringSearch.forget();
+        ringSearch.forget(house);
         if (keeper != null) {
-            keeper.forget();
+            keeper.forget(house);
         }
     }
 
     private Keeper findings() {
         if (keeper == null) {
-            keeper = new Keeper(house);
+            keeper = new Keeper();
+            keeper.forget(house);
         }
         return keeper;
     }
@@ -1029,7 +1030,7 @@ public final class LampRounds {
         private void takeTokens(byte[] bytes, int size) {
             int number = 0;
             int place = 0;
-            while (place < size) {
+            for (int i = 0; i < MOST_BYTES && place < size; i++) {
                 int sign = bytes[place];
                 int behind = behindToken(bytes, place, size);
                 if (sign != ' ' && sign != '\n') {
@@ -1697,17 +1698,9 @@ public final class LampRounds {
         private int readySet = NONE;
         private int stateTally = NOT_ASKED;
 
-        Keeper(House told) {
-            house = told;
-            for (int set = 0; set < SET_COUNT; set++) {
-                startsKept[set] = NOT_ASKED;
-            }
-            for (int r = 0; r < MOST_ROOMS; r++) {
-                moreWaits[r] = NOT_ASKED;
-            }
-        }
-
-        void forget() {
+        /** Comes ahead of any question: nothing is known yet of a HOUSE. */
+        void forget(House newHouse) {
+            house = newHouse;
             readySet = NONE;
             stateTally = NOT_ASKED;
             for (int set = 0; set < SET_COUNT; set++) {
@@ -1922,36 +1915,32 @@ public final class LampRounds {
         private final int[] agesAt = new int[MOST_PLACES + 1];
         private final int[] agesAround = new int[MOST_PLACES + 1];
         private House house = null;
-        private int shortestFound = NOT_ASKED;
+        private int shortestFound = NONE;
         private int size = 0;
         private int found = 0;
         private boolean oneIsEnough = false;
 
-        RingSearch() {
-            for (int n = 0; n <= MOST_RING; n++) {
-                counts[n] = NOT_ASKED;
-            }
-        }
-
-        void forget() {
+        /** Comes ahead of any question: nothing is known yet of a HOUSE. */
+        void forget(House newHouse) {
+            house = newHouse;
             shortestFound = NOT_ASKED;
             for (int n = 0; n <= MOST_RING; n++) {
                 counts[n] = NOT_ASKED;
             }
         }
 
-        int howMany(House newHouse, int n) {
+        int howMany(int n) {
             if (counts[n] == NOT_ASKED) {
-                counts[n] = search(newHouse, n, false);
+                counts[n] = search(n, false);
             }
             return counts[n];
         }
 
-        int shortestSize(House newHouse) {
+        int shortestSize() {
             if (shortestFound == NOT_ASKED) {
                 shortestFound = NONE;
                 for (int n = 1; n <= MOST_RING && shortestFound == NONE; n++) {
-                    if (search(newHouse, n, true) > 0) {
+                    if (search(n, true) > 0) {
                         shortestFound = n;
                     }
                 }
@@ -1959,8 +1948,8 @@ public final class LampRounds {
             return shortestFound;
         }
 
-        boolean roundCloses(House newHouse) {
-            begin(newHouse, newHouse.length);
+        boolean roundCloses() {
+            begin(house.length);
             for (int i = 1; i <= size; i++) {
                 if (!enter(i, house.places[i - 1])) {
                     return false;
@@ -1969,16 +1958,15 @@ public final class LampRounds {
             return size > 0 && closes();
         }
 
-        private int search(House newHouse, int n, boolean firstAlone) {
-            begin(newHouse, n);
+        private int search(int n, boolean firstAlone) {
+            begin(n);
             oneIsEnough = firstAlone;
             grow(1, 1);
             return found;
         }
 
-        private void begin(House newHouse, int n) {
-            house = newHouse;
-            ageing.prepare(newHouse, newHouse.everyRoom());
+        private void begin(int n) {
+            ageing.prepare(house, house.everyRoom());
             size = n;
             found = 0;
             path[0] = 0;

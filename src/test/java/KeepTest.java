@@ -17,6 +17,8 @@ public final class KeepTest {
         densityAndEven();
         shares();
         another();
+        askedInAnyOrder();
+        rareRings();
         KIT.close("KeepTest");
     }
 
@@ -184,6 +186,7 @@ public final class KeepTest {
         KIT.due("0 1 2: no way back", TestKit.told(three + "round 0 1 2;").isRing(), 0);
         KIT.due("0 2 1: no way", TestKit.told(three + "round 0 2 1 1;").isRing(), 0);
         KIT.due("0 1: one is left", TestKit.told(three + "round 0 1;").isRing(), 0);
+        KIT.due("2 1 0 1", TestKit.told(three + "round 2 1 0 1;").isRing(), 1);
         KIT.due("twelve", TestKit.told(three + "round 0 1 2 1 0 1 2 1 0 1 2 1;").isRing(), 1);
         KIT.due("twelve, eight minutes without 0", TestKit.told(three + "round 0 1 2 2 2 2 2 2 1 0 0 0;").isRing(), 0);
         KIT.due("twelve, seven minutes without 0", TestKit.told(three + "round 0 1 2 2 2 2 2 1 0 0 0 0;").isRing(), 1);
@@ -306,5 +309,48 @@ public final class KeepTest {
         KIT.due("keeps(3) again", x.keeps(3), 1);
         KIT.due("longest() again", x.longest(), 100);
         KIT.due("longer(1) again", x.longer(1), 0);
+    }
+
+    private static void askedInAnyOrder() {
+        KIT.part("25 to 36 asked in any order");
+        String one = HEAD + "room wait 1 worth 3;";
+        String two = HEAD + "room wait 1 worth 3;room wait 1 worth 4;way 0 1;round 1 0;";
+        LampRounds x = TestKit.told(one);
+        KIT.due("keeps(0)", x.keeps(0), 1);
+        KIT.due("rings(10)", x.rings(10), 1);
+        KIT.due("longer(0)", x.longer(0), 0);
+        TestKit.tell(x, two);
+        KIT.due("keeps(0) of two", x.keeps(0), 1);
+        KIT.due("rings(10) of two", x.rings(10), 2);
+        KIT.due("keeps(1) ahead of next()", x.keeps(1), 1);
+        KIT.due("next()", x.next(), 0);
+        KIT.due("keeps(2) ahead of states()", x.keeps(2), 1);
+        KIT.due("states()", x.states(), 6);
+        TestKit.tell(x, HEAD + "room wait 1 worth 3;room wait 2 worth 9;");
+        KIT.due("longer(0) of two apart", x.longer(0), -1);
+        KIT.due("next() behind longer()", x.next(), -1);
+        KIT.due("longer(1) of two apart", x.longer(1), -1);
+        KIT.due("longest() behind longer()", x.longest(), 2);
+        KIT.due("keeps(1) ahead of longest()", x.keeps(1), 1);
+        KIT.due("longest()", x.longest(), 2);
+    }
+
+    private static void rareRings() {
+        KIT.part("29 the longest of all shortest rings is of nine");
+        LampRounds x = TestKit.told("house law 2 odds 0 minutes 9;room wait 7 worth 1;room wait 7 worth 1;room wait 7 worth 1;"
+            + "room wait 7 worth 1;way 0 1;way 0 2;way 0 3;way 2 3;");
+        int[] row = {0, 0, 1, 1, 0, 2, 2, 3, 3, -1};
+        KIT.due("ring()", x.ring(), 9);
+        for (int i = 0; i < row.length; i++) {
+            KIT.due("ringed(" + i + ")", x.ringed(i), row[i]);
+        }
+        // 0 twice ahead of 1 1 or behind it, then 2 2 3 3 or 3 3 2 2: four, and nine turns of each
+        KIT.due("rings(9)", x.rings(9), 36);
+        KIT.due("rings(10)", x.rings(10), 0);
+        KIT.part("29 kept for ever, but by no ring of ten");
+        x = TestKit.told("house law 1 odds 0 minutes 9;room wait 7 worth 1;room wait 6 worth 1;room wait 4 worth 1;"
+            + "room wait 7 worth 1;way 0 1;way 0 2;way 1 2;way 1 3;way 2 3;");
+        KIT.due("keeps(15)", x.keeps(15), 1);
+        KIT.due("ring()", x.ring(), -1);
     }
 }

@@ -8,6 +8,7 @@ public final class StateTest {
         rate();
         count();
         images();
+        imageOfWays();
         imageOfNothing();
         row();
         write();
@@ -111,6 +112,28 @@ public final class StateTest {
         x.back(2);
         KIT.due("the TAPE stays", x.count(9), 20);
         KIT.due("SLOTS stay", x.count(10), 1);
+    }
+
+    /** Whatever is known of a HOUSE's ways comes back with it. */
+    private static void imageOfWays() {
+        KIT.part("61, 62 ways of an image");
+        String four = "house law 0 odds 0 minutes 9;room wait 5 worth 7;room wait 5 worth 7;room wait 5 worth 7;room wait 5 worth 7;";
+        LampRounds x = TestKit.told(four + "way 0 1;way 1 2;way 2 3;round 3 2 1 0;");
+        x.image(0);
+        TestKit.tell(x, four + "way 0 3;");
+        KIT.due("at(0, 0) without a ROUND", x.at(0, 0), 0);
+        KIT.due("keeps(8) without a ROUND", x.keeps(8), 1);
+        KIT.due("keeps(6) without a ROUND", x.keeps(6), 0);
+        KIT.due("next() without a ROUND", x.next(), -1);
+        x.back(0);
+        int[][] far = {{0, 1, 2, 3}, {1, 0, 1, 2}, {2, 1, 0, 1}, {3, 2, 1, 0}};
+        for (int r = 0; r < 4; r++) {
+            for (int s = 0; s < 4; s++) {
+                KIT.due("far(" + r + ", " + s + ")", x.far(r, s), far[r][s]);
+            }
+        }
+        KIT.due("at(0, 3)", x.at(0, 3), 0);
+        KIT.due("at(1, 0)", x.at(1, 0), 3);
     }
 
     private static void imageOfNothing() {

@@ -128,6 +128,12 @@ public final class TextTest {
         faultAt(1, "@;");
         faultAt(1, "@7");
         faultAt(1, "@houses law 0 odds 0 minutes 8;");
+        faultAt(1, "@housez law 0 odds 0 minutes 8;");
+        faultAt(1, "@ahouse law 0 odds 0 minutes 8;");
+        faultAt(1, "house@{law 0 odds 0 minutes 8;");
+        faultAt(1, "house@`law 0 odds 0 minutes 8;");
+        faultAt(1, "house law 0@/odds 0 minutes 8;");
+        faultAt(1, "house law 0@:odds 0 minutes 8;");
         faultAt(1, "@House law 0 odds 0 minutes 8;");
         faultAt(1, "house @odds 0 minutes 8;");
         faultAt(1, "house law @-1 odds 0 minutes 8;");
