@@ -360,8 +360,7 @@ public final class LampRounds {
         if (refusal != 0) {
             return refusal;
         }
-        int fitting = cluesOf(slot).fitting;
-        return fitting == 0 ? NONE : Integer.numberOfTrailingZeros(fitting);
+        return cluesOf(slot).firstFitting();
     }
 
     public int window(int slot) {
@@ -1583,6 +1582,15 @@ public final class LampRounds {
             }
         }
 
+        int firstFitting() {
+            for (int place = 0; place < MOST_PLACES; place++) {
+                if ((fitting >> place & 1) != 0) {
+                    return place;
+                }
+            }
+            return NONE;
+        }
+
         void choose() {
             worst = Integer.bitCount(fitting);
             bestCell = NONE;
@@ -1832,7 +1840,7 @@ public final class LampRounds {
                 int top = trail[height - 1];
                 if ((top & 7) >= house.rooms) {
                     height--;
-                    lose(height);
+                    outlast(height - 1, lose(top >> 3));
                     continue;
                 }
                 trail[height - 1] = top + 1;
@@ -1857,19 +1865,20 @@ public final class LampRounds {
             mark(index, OPEN);
         }
 
-        /** Not to be kept, as no move from it is; the STATE ahead lasts a MINUTE longer than it. */
-        private void lose(int height) {
-            int index = indexOf(trail[height] >> 3);
+        /** Not to be kept, as no move from it is: how many MINUTES it lasts. */
+        private int lose(int state) {
+            int index = indexOf(state);
             mark(index, LOST);
             spans[index] = (byte) Math.min(MOST_SPAN, spans[index] + 1);
-            if (height > 0) {
-                outlast(height - 1, spans[index]);
-            }
+            return spans[index];
         }
 
+        /** A STATE on the trail lasts longer than those behind it; so far their spans are gathered, its own MINUTE aside. */
         private void outlast(int height, int span) {
-            int index = indexOf(trail[height] >> 3);
-            spans[index] = (byte) Math.max(spans[index], span);
+            if (height >= 0) {
+                int index = indexOf(trail[height] >> 3);
+                spans[index] = (byte) Math.max(spans[index], span);
+            }
         }
 
         private void keepTrail(int height) {
