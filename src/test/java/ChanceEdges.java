@@ -195,6 +195,10 @@ final class ChanceEdges {
         kit.due("send()", told(5, "").send(), 102);
         LampRounds zero = TestKit.told("house law 0 odds 0 minutes 6;room wait 2 worth 1;room wait 7 worth 1;round 1;");
         kit.due("send() to ROOM 0", zero.send(), 2);
+        // by MODE 1 none goes out
+        LampRounds mode = TestKit.told("house law 0 odds 0 minutes 6;room wait 1 worth 1;room wait 1 worth 1;way 0 1;");
+        kit.due("dark(1)", mode.dark(1), -1);
+        kit.due("send() of MODE 0", mode.send(), 101);
         // acts don't stand in its way, be there thirty
         LampRounds full = told(5, "");
         act(full, 30);
@@ -240,6 +244,10 @@ final class ChanceEdges {
         kit.due("visit(1, 4), between", x.visit(1, 4), 0);
         kit.due("visit(0, 5)", x.visit(0, 5), 0);
         kit.due("visit(1, 3) of one that is out", told(5, "").visit(1, 3), 99);
+        // by MODE 1 it would not be
+        LampRounds mode = TestKit.told("house law 0 odds 5 minutes 6;room wait 7 worth 1;room wait 2 worth 1;way 0 1;");
+        kit.due("age(1, 1, 5)", mode.age(1, 1, 5) < 99 ? 1 : 0, 1);
+        kit.due("visit(1, 5), MODE 0", mode.visit(1, 5), 99);
         LampRounds half = TestKit.told("house law 1 odds 5 minutes 8;room wait 7 worth 1;room wait 7 worth 1;");
         kit.due("visit(1, 7) by LAW 1", half.visit(1, 7), 3);
         kit.due("visit(1, 0) by LAW 1", half.visit(1, 0), 0);
@@ -280,6 +288,9 @@ final class ChanceEdges {
         kit.due("nods(5), the last MINUTE", x.nods(5), 0);
         kit.due("nods(0) again: at its end", x.nods(0), 3);
         kit.due("count(7)", x.count(7), 4);
+        LampRounds mode = TestKit.told("house law 0 odds 5 minutes 6;room wait 7 worth 1;room wait 2 worth 1;way 0 1;");
+        kit.due("burns(1, 5)", mode.burns(1, 5), 3);
+        kit.due("nods(5), MODE 0", mode.nods(5), 1);
         LampRounds empty = TestKit.told(EMPTY);
         kit.due("nods(5) without ROOMS", empty.nods(5), 0);
         kit.due("count(7) without ROOMS", empty.count(7), 1);

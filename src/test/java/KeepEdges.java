@@ -138,6 +138,10 @@ final class KeepEdges {
         kit.promise(26, "From how many STATES (IV) all flames can be kept for ever");
         kit.due("states() of two apart", told(0, "7 7", "").states(), 0);
         kit.due("states() of one", told(0, "7", "").states(), 8);
+        // where he is matters: by trying all there is
+        kit.due("states() of 3 1 3 in a line", told(0, "3 1 3", "way 0 1;way 1 2;").states(), 14 + 17 + 14);
+        kit.due("states() of 1 3 3 in a line", told(0, "1 3 3", "way 0 1;way 0 2;").states(), 17 + 14 + 14);
+        kit.due("states() of 3 2 by LAW 2", told(2, "3 2", "way 0 1;").states(), 20);
         kit.promise(26, "(without ROOMS 0)");
         kit.due("states() without ROOMS", TestKit.told(EMPTY).states(), 0);
         kit.promise(26, "-2: there is no HOUSE.");
@@ -190,11 +194,17 @@ final class KeepEdges {
         isRing("0 2 1 1", 0, "7 7 7", "way 0 1;way 1 2;", 0);
         isRing("0 0 1 1 2 2 1", 0, "7 7 7", "way 0 1;way 1 2;", 1);
         isRing("0", 0, "1", "", 1);
+        isRing("2 1 0 1", 0, "7 7 7", "way 0 1;way 1 2;", 1);
         kit.term("V", "and from the last to the first");
+        isRing("1 0 1 2", 0, "7 7 7", "way 0 1;way 1 2;", 1);
+        isRing("2 1 0", 0, "7 7 7", "way 0 1;way 1 2;", 0);
         isRing("0 1 2", 0, "7 7 7", "way 0 1;way 1 2;", 0);
         isRing("0 1 2", 0, "7 7 7", "way 0 1;way 1 2;way 2 0;", 1);
         isRing("1 2 0", 0, "7 7 7", "way 0 1;way 1 2;", 0);
         kit.term("V", "going so again and again, from AGES 0 on, beginning at its first ROOM, no flame ever goes out.");
+        // from the end of one time to the next 0 waits for 2 MINUTES
+        isRing("1 0 1", 0, "2 1", "way 0 1;", 1);
+        isRing("1 0 1", 0, "1 1", "way 0 1;", 0);
         // the second time around 1 waits for 4 MINUTES
         isRing("0 1 0 0 0", 0, "7 4", "way 0 1;", 1);
         isRing("0 1 0 0 0", 0, "7 3", "way 0 1;", 0);
@@ -206,6 +216,10 @@ final class KeepEdges {
         isRing("0 1 1 0", 2, "2 2", "way 0 1;", 1);
         isRing("0 1 1 0", 2, "1 2", "way 0 1;", 0);
         isRing("0 1", 2, "7 7", "way 0 1;", 0);
+        // by LAW 3 from 1 nothing is older, from 0 the flame of 2 is: sooner or later it goes out
+        isRing("1", 3, "1 1 1", "way 0 1;way 1 2;", 1);
+        isRing("1 0", 3, "7 7 7", "way 0 1;way 1 2;", 0);
+        isRing("1 1 1 1 1 1 1 1 1 1 1 0", 3, "7 7 7", "way 0 1;way 1 2;", 0);
         kit.term("V", "Without ROOMS there is none.");
         LampRounds x = TestKit.told(EMPTY);
         kit.due("ring()", x.ring(), -1);
@@ -244,10 +258,13 @@ final class KeepEdges {
         }
         LampRounds one = told(3, "1 1 1", "way 2 0;way 2 1;");
         kit.due("ringed(0) of one", one.ringed(0), 2);
+        kit.due("ringed(0), 0 or 1", told(3, "1 1", "way 0 1;").ringed(0), 0);
         LampRounds three = told(0, "2 2 2", "way 0 1;way 0 2;way 1 2;round 2 1 0;");
         for (int i = 0; i < 3; i++) {
             kit.due("ringed(" + i + ") of 0 1 2 and 0 2 1", three.ringed(i), i);
         }
+        kit.due("rings(3), asked between", three.rings(3), 6);
+        kit.due("ringed(1) behind it", three.ringed(1), 1);
         kit.promise(30, "NONE: there is no such place");
         kit.due("ringed(9) of nine", nine.ringed(9), -1);
         kit.due("ringed(10) of nine", nine.ringed(10), -1);
@@ -359,13 +376,28 @@ final class KeepEdges {
         kit.due("longer(1), one", told(2, "2 1", "way 0 1;").longer(1), 1);
         kit.due("longer(2), two", told(0, "1 3 1", "way 0 1;way 0 2;").longer(2), 2);
         kit.due("longer(2), six, the most that can be", told(1, "3 3 1", "way 0 1;way 0 2;").longer(2), 6);
+        // 0 1 2 3 again and again: each must wait 3, whichever ROOM it is
+        String[] three = {"1 3 3 3", "3 1 3 3", "3 3 1 3", "3 3 3 1"};
+        for (int r = 0; r < 4; r++) {
+            LampRounds x = told(0, three[r], ALL_WAYS);
+            for (int s = 0; s < 4; s++) {
+                kit.due("longer(" + s + ") of " + three[r], x.longer(s), r == s ? 2 : -1);
+            }
+        }
+        kit.due("longer(3) of 3 3 7 1, by trying all there is", told(0, "3 3 7 1", ALL_WAYS).longer(3), 2);
         kit.promise(36, "(its wait no more than 7)");
         kit.due("longer(2), five", told(1, "3 3 2", "way 0 1;way 0 2;").longer(2), 5);
         kit.due("longer(2), one to be 7", told(1, "3 3 6", "way 0 1;way 0 2;").longer(2), 1);
         kit.due("longer(2) at 7", told(1, "3 3 7", "way 0 1;way 0 2;").longer(2), 0);
         kit.promise(36, "so that all can be kept for ever.");
         LampRounds x = told(2, "2 1", "way 0 1;");
+        // 0 1, 1 1, 2 0, 2 1, and then none
+        kit.due("longest() ahead of it", x.longest(), 4);
         kit.due("longer(1)", x.longer(1), 1);
+        kit.due("longest() as it is", x.longest(), 4);
+        kit.due("longer(1) again", x.longer(1), 1);
+        kit.due("next() as it is", x.next(), -1);
+        kit.due("states() as it is", x.states(), 0);
         kit.due("keeps(3) as it is", x.keeps(3), 0);
         kit.due("the wait told stays", x.room(1, 0), 1);
         kit.promise(36, "NONE: by none");

@@ -207,6 +207,10 @@ final class NightEdges {
             wards(x, 0, r);
             wards(x, 1, r);
         }
+        LampRounds another = told(0, 1, "7 7 7 7", "round 3;");
+        TestKit.tell(another, "house law 0 odds 5 minutes 1;room wait 7 worth 1;room wait 7 worth 1;");
+        wards(another, 0, 0);
+        wards(another, 1, 0);
         wards(told(0, 1, "7 7 7 7", ""), 0, 0);
         wards(told(0, 1, "7 7 7 7", ""), 1, 0);
 
@@ -246,6 +250,8 @@ final class NightEdges {
         wards(told(0, 4, "7 7 7 1", "way 0 2;way 2 3;way 0 1;way 1 3;"), 1, 0, 1, 0, 2);
         // a lesser ROOM that is no nearer is not on the way
         wards(told(0, 3, "7 7 7 2", "way 0 1;way 0 2;way 2 3;"), 1, 0, 2, 3);
+        // 1 is as near to 3 as 2 is, but from 0 there is a way to 2 alone
+        wards(told(0, 3, "7 7 7 2", "way 0 2;way 2 3;way 1 3;"), 1, 0, 2, 3);
         kit.term("III", "he stays, if he is there");
         wards(told(0, 10, "1 7", "way 0 1;"), 1, 0, 0, 0, 0, 0, 0, 0, 1, 0, 0);
         kit.term("III", "or there is no way)");
@@ -529,6 +535,7 @@ final class NightEdges {
     private void steady() {
         kit.promise(23, "ROOMS whose flames never go out, as bits.");
         kit.due("steady(0), all", told(0, 7, "7 7 7 7", "").steady(0), 15);
+        kit.due("steady(0) of one MINUTE", told(0, 1, "1 1 1 1", "").steady(0), 15);
         kit.due("steady(0), one MINUTE more", told(0, 8, "7 7 7 7", "").steady(0), 1);
         kit.due("steady(1)", TestKit.told(THREE).steady(1), 6);
         LampRounds x = told(0, 3, "1", "");

@@ -214,6 +214,11 @@ final class SeenEdges {
             + "room wait 7 worth 1;way 2 3;round 2 3;").window(0), 200);
         kit.promise(43, "NONE: none");
         kit.due("window, none fits", seen(TWELVE, 1, 0, 2).window(0), -1);
+        LampRounds again = seen(TWELVE);
+        kit.due("window, one is found", again.window(0), 105);
+        TestKit.row(again, 1, 1, 0, 0);
+        kit.due("window, none behind it", again.window(1), -1);
+        kit.due("leaves, none behind it", again.leaves(1), 1);
         kit.due("window without a ROUND", seen(TWO).window(0), -1);
         kit.due("window without ROOMS", seen(EMPTY).window(0), -1);
         kit.promise(43, "-2, -6 likewise.");
@@ -382,6 +387,9 @@ final class SeenEdges {
         LampRounds x = TestKit.told(head + 5 + ";room wait 2 worth 1;room wait 1 worth 1;way 0 1;");
         kit.due("rests(0, 1), the first one", x.rests(0, 1), 2);
         kit.due("rests(1, 0), the other one", x.rests(1, 0), 4);
+        // 1 4, -2 4, 1 1, -2 1; and 30 0, 27 0, 1 26, 27 -3
+        kit.due("rests(0, 1) of 3 1", TestKit.told(head + 5 + ";room wait 3 worth 1;room wait 1 worth 1;way 0 1;").rests(0, 1), 1);
+        kit.due("rests(0, 1) of 3 3", TestKit.told(head + 30 + ";room wait 3 worth 1;room wait 3 worth 1;way 0 1;").rests(0, 1), 0);
         // 18 9, 18 6, 14 10, 15 6
         x = TestKit.told("house law 0 odds 0 minutes 27;room wait 2 worth 1;room wait 3 worth 1;way 0 1;");
         kit.due("rests(0, 1), the first one, and both", x.rests(0, 1), 10);

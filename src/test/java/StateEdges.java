@@ -82,6 +82,10 @@ final class StateEdges {
             has(x, slot, fitting(60));
             kit.due("write(" + slot + ", 60, 0)", x.write(slot, 60, 0), -7);
         }
+        fill(x, 0, 0, fitting(59));
+        kit.due("write(0, 58, 0), one short of full", x.write(0, 58, 0), 0);
+        kit.due("write(0, 59, 0), one short of full", x.write(0, 59, 0), -7);
+        kit.due("begins(0) of 59", x.begins(0), -2);
         // one byte, two, four, eight: the greatest power of 2 that a number can be without being cut to 0
         for (int width = 0; width < 4; width++) {
             int bits = 8 << width;
@@ -245,6 +249,9 @@ final class StateEdges {
             kit.due("image(" + k + ")", x.image(k), 0);
         }
         TestKit.tell(x, ONE);
+        kit.due("states() of ONE", x.states(), 0);
+        kit.due("ring() of ONE", x.ring(), -1);
+        kit.due("longer(1) of ONE", x.longer(1), -1);
         x.feed(0x20202020, 0x20202020, 0x20202020, 0x20202020, 0x20202020);
         x.row(1, 1, 1);
         for (int k = 2; k >= 0; k--) {
@@ -253,7 +260,18 @@ final class StateEdges {
         }
         kit.due("far(0, 3)", x.far(0, 3), 1);
         kit.due("states()", x.states(), 16384);
+        kit.due("ring()", x.ring(), 1);
+        kit.due("longer(1)", x.longer(1), 0);
+        x.nods(7);
+        x.rate(0, 1);
+        kit.due("count(7)", x.count(7), 2);
         kit.due("back(0) again", x.back(0), 0);
+        kit.due("count(7), what was done since is not in it", x.count(7), 1);
+        x.anew();
+        x.rate(0, 1);
+        kit.due("room(0, 1)", x.room(0, 1), 1);
+        kit.due("back(0) again", x.back(0), 0);
+        kit.due("room(0, 1), as it was kept", x.room(0, 1), 99);
         // an image of no HOUSE is one
         LampRounds y = new LampRounds();
         kit.due("image(1) of no HOUSE", y.image(1), 0);

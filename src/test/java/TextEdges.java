@@ -23,6 +23,7 @@ final class TextEdges {
         edges.fault();
         edges.linesOfTheHouse();
         edges.eachToken();
+        edges.misspelt();
         edges.numbers();
         edges.roomsToldAhead();
         edges.numbered();
@@ -182,6 +183,12 @@ final class TextEdges {
             kit.due("count(" + what + ")", x.count(what), counts[what]);
         }
         kit.due("doors(0) of the other are gone", x.doors(0), 0);
+        TestKit.tell(x, TWO + "round 1;");
+        TestKit.tell(x, TWO);
+        kit.due("at(0, 0), the ROUND of the other is gone", x.at(0, 0), 0);
+        kit.due("keeps(1), the ROUND of the other is gone", x.keeps(1), 1);
+        whatIsFoundIsOfThisHouse();
+        TestKit.tell(x, "house law 3 odds 10 minutes 1;" + ROOM);
         kit.due("looks(0, 0) of the other's visitors are gone", x.looks(0, 0), 1);
 
         kit.promise(4, "nothing done");
@@ -203,7 +210,7 @@ final class TextEdges {
         String[] none = {"", " ", "\n", " \n \n", " ".repeat(500)};
         for (String text : none) {
             fine(text, 0);
-            x = TestKit.told(HEAD + ROOM);
+            x = TestKit.told("house law 3 odds 10 minutes 30;" + ROOM + ROOM + "way 0 1;visitor in 0 at 0;round 1;");
             x.nods(0);
             kit.due("house() in place of another", TestKit.tell(x, text), 0);
             for (int what = 0; what <= 9; what++) {
@@ -225,6 +232,27 @@ final class TextEdges {
         kit.due("-4 ahead of any", TestKit.tell(x, HEAD + "$"), -4);
         kit.due("no HOUSE still", x.dark(0), -2);
         kit.due("the TAPE is empty then", x.count(9), 0);
+    }
+
+    private void whatIsFoundIsOfThisHouse() {
+        LampRounds x = TestKit.told(TWO + "way 0 1;");
+        for (int time = 0; time < 2; time++) {
+            kit.due("states() of 1 1", x.states(), 6);
+            kit.due("keeps(3) of 1 1", x.keeps(3), 1);
+            kit.due("ring() of 1 1", x.ring(), 2);
+            kit.due("rings(4) of 1 1", x.rings(4), 2);
+            kit.due("longer(1) of 1 1", x.longer(1), 0);
+            kit.due("longest() of 1 1", x.longest(), 100);
+            TestKit.tell(x, TWO);
+            kit.due("longest() of two apart", x.longest(), 1);
+            kit.due("states() of two apart", x.states(), 0);
+            kit.due("keeps(3) of two apart", x.keeps(3), 0);
+            kit.due("ring() of two apart", x.ring(), -1);
+            kit.due("rings(4) of two apart", x.rings(4), 0);
+            kit.due("longer(1) of two apart", x.longer(1), -1);
+            kit.due("next() of two apart", x.next(), -1);
+            TestKit.tell(x, TWO + "way 0 1;");
+        }
     }
 
     private void faultLeavesAll(LampRounds x, String text) {
@@ -362,6 +390,36 @@ final class TextEdges {
                 faulty(1, before + "@");
             }
         }
+    }
+
+    private void misspelt() {
+        String[] heads = {"house", "law", "odds", "minutes"};
+        for (String word : heads) {
+            String text = "house law 0 odds 0 minutes 8;";
+            int place = text.indexOf(word);
+            misspell(text.substring(0, place), word, text.substring(place + word.length()));
+        }
+        misspell(TWO, "room", " wait 1 worth 1;");
+        misspell(TWO + "room ", "wait", " 1 worth 1;");
+        misspell(TWO + "room wait 1 ", "worth", " 1;");
+        misspell(TWO, "way", " 0 1;");
+        misspell(TWO, "visitor", " in 0 at 1;");
+        misspell(TWO + "visitor ", "in", " 0 at 1;");
+        misspell(TWO + "visitor in 0 ", "at", " 1;");
+        misspell(TWO, "round", " 0 1;");
+    }
+
+    /** Each letter another one, or left out; one more ahead, or behind. */
+    private void misspell(String ahead, String word, String behind) {
+        fine(ahead + word + behind, linesOf(ahead + word + behind));
+        for (int i = 0; i < word.length(); i++) {
+            faulty(1, ahead + "@" + word.substring(0, i) + "q" + word.substring(i + 1) + behind);
+            faulty(1, ahead + "@" + word.substring(0, i) + word.substring(i + 1) + behind);
+            // what stands ahead of a capital letter is a word cut short, and can't stand there either
+            faulty(1, ahead + "@" + word.substring(0, i) + Character.toUpperCase(word.charAt(i)) + word.substring(i + 1) + behind);
+        }
+        faulty(1, ahead + "@q" + word + behind);
+        faulty(1, ahead + "@" + word + "q" + behind);
     }
 
     private void bound(String ahead, String behind, int least, int greatest) {
@@ -521,14 +579,18 @@ final class TextEdges {
     private void tooMany() {
         String four = HEAD + ROOM + ROOM + ROOM + ROOM;
         kit.term("text", "3 a 5th room");
+        fine(HEAD, 1);
+        fine(HEAD + ROOM + ROOM + ROOM, 4);
         fine(four, 5);
         faulty(3, four + "@" + ROOM);
         faulty(3, four + "@room");
         kit.term("text", "7th way");
+        fine(TWO + "way 0 1;".repeat(5), 8);
         fine(TWO + "way 0 1;".repeat(6), 9);
         faulty(3, TWO + "way 0 1;".repeat(6) + "@way 0 1;");
         faulty(3, TWO + "way 0 1;".repeat(6) + "@way 5 5");
         kit.term("text", "6th visitor");
+        fine(TWO + "visitor in 0 at 0;".repeat(4), 7);
         fine(TWO + "visitor in 0 at 0;".repeat(5), 8);
         faulty(3, TWO + "visitor in 0 at 0;".repeat(5) + "@visitor in 0 at 0;");
         faulty(3, TWO + "visitor in 0 at 0;".repeat(5) + "@visitor");
@@ -537,6 +599,7 @@ final class TextEdges {
         faulty(3, TWO + "round 0;\n@round;");
         kit.term("text", "a 13th ROOM of a round, at its number");
         faulty(3, TWO + "round 0 1 0 1 0 1 0 1 0 1 0 1  @1 1 1;");
+        fine(TWO + "round 0 1 0 1 0 1 0 1 0 1 0;", 4);
         fine(TWO + "round 0 1 0 1 0 1 0 1 0 1 0 1;", 4);
         // where nothing is too many the limits of one kind leave the others alone
         fine(FULL, 17);
